@@ -10,8 +10,9 @@ import java.util.TreeSet;
 // Long runs of mixed calls, right and wrong ones, each against a slow bench that does the document's
 // words in the plainest way: all partings are listed, all orders tried, every cost told from its words.
 public final class OracleTest {
-    private static final int RUNS = 700;
-    private static final int CALLS = 480;
+    private static final int RUNS = 900;
+    private static final int CALLS = 450;
+    private static final int CALLABLE = 39;
     private static final int[] ODD = {Integer.MIN_VALUE, -1, 12, 13, Integer.MAX_VALUE, 1 << 30, -32};
 
     public static void main(String[] args) {
@@ -43,28 +44,56 @@ public final class OracleTest {
             this.number = number;
             random = new Random(number * 7919L);
             // all partings of twelve things are too many for every run
-            mostThings = number % 100 == 0 ? 12 : number % 7 == 0 ? 9 : 7;
+            mostThings = number % 100 == 0 ? 12 : number % 10 == 0 ? 9 : number % 3 == 0 ? 7 : 6;
             range = new int[] {2, 4, 12, 1000}[random.nextInt(4)];
         }
 
         boolean go() {
-            while (calls < CALLS) {
-                boolean fine = calls < 60 && random.nextInt(3) > 0 ? fill() : call(random.nextInt(37));
-                if (!fine || random.nextInt(12) == 0 && !sameState()) {
-                    for (String line : told) {
-                        System.out.println("  " + line);
-                    }
-                    return false;
-                }
+            boolean fine = begin();
+            while (fine && calls < CALLS) {
+                fine = call(random.nextInt(CALLABLE)) && (random.nextInt(40) > 0 || sameState());
             }
-            return true;
+            for (String line : fine ? new ArrayList<String>() : told) {
+                System.out.println("  " + line);
+            }
+            return fine;
         }
 
-        boolean fill() {
-            if (slow.n < 3) {
-                return call(0);
+        /** Things with ways by places or by no rule at all, and with quarrels; at times just a new object. */
+        boolean begin() {
+            int n = 2 + random.nextInt(mostThings - 1);
+            boolean fine = random.nextInt(20) == 0 || same("things(" + n + ")", real.things(n), slow.things(n));
+            boolean byPlaces = random.nextBoolean();
+            for (int a = 0; fine && a < slow.n; a++) {
+                for (int b = 0; fine && b < a; b++) {
+                    fine = (byPlaces || wayOf(a, b)) && quarrelOf(a, b);
+                }
+                fine = fine && (!byPlaces && random.nextInt(3) > 0 || placeOf(a));
             }
-            return call(new int[] {1, 1, 1, 6, 6, 6, 2, 3, 3, 4, 5, 7}[random.nextInt(12)]);
+            return fine && (!byPlaces || callThings(5)) && sameState();
+        }
+
+        boolean wayOf(int a, int b) {
+            int v = random.nextInt(range + 1);
+            return same("way(" + a + ", " + b + ", " + v + ")", real.way(a, b, v), slow.way(a, b, v));
+        }
+
+        boolean quarrelOf(int a, int b) {
+            int weight = random.nextInt(4) == 0 ? 0 : random.nextInt(range + 1);
+            boolean like = random.nextInt(3) > 0;
+            return same("quarrel(" + a + ", " + b + ", " + weight + ", " + like + ")",
+                    real.quarrel(a, b, weight, like), slow.quarrel(a, b, weight, like));
+        }
+
+        boolean placeOf(int a) {
+            int kind = random.nextInt(5);
+            int m = 1 + random.nextInt(4);
+            boolean fine = same("sheet(" + kind + ", " + m + ")", real.sheet(kind, m), slow.sheet(kind, m));
+            for (int i = 0; fine && i < m; i++) {
+                long e = random.nextInt(2 * range + 1) - range;
+                fine = same("entry(" + i + ", " + e + ")", real.entry(i, e), slow.entry(i, e));
+            }
+            return fine && same("lay(" + a + ")", real.lay(a), slow.lay(a));
         }
 
         int odd() {
@@ -81,8 +110,12 @@ public final class OracleTest {
         }
 
         boolean same(String call, long got, long due) {
-            calls += 2;
+            calls++;
             told.add(call + " answered " + got);
+            if (got == due && slow.fault == 0 && random.nextInt(4) > 0) {
+                return true;
+            }
+            calls++;
             int fault = real.fault();
             if (got == due && fault == slow.fault) {
                 return true;
@@ -122,7 +155,10 @@ public final class OracleTest {
             if (which < 21) {
                 return callBest(which);
             }
-            return which < 25 ? callTree(which) : callLast(which);
+            if (which < 25) {
+                return callTree(which);
+            }
+            return which < 37 ? callLast(which) : which == 37 ? callTree(21) && callTree(24) : placeOf(random.nextInt(slow.n));
         }
 
         boolean callThings(int which) {
@@ -132,7 +168,7 @@ public final class OracleTest {
             int kind = random.nextInt(20) == 0 ? odd() : random.nextInt(5);
             switch (which) {
                 case 0:
-                    if (slow.n > 2 && random.nextInt(3) > 0) {
+                    if (slow.n > 2 && random.nextInt(5) > 0) {
                         return true;
                     }
                     int n = random.nextInt(10) == 0 ? random.nextInt(2) * 13 : 1 + random.nextInt(mostThings);
