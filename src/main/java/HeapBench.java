@@ -546,10 +546,10 @@ public final class HeapBench {
             System.arraycopy(fresh, 0, heapOf, 0, size);
         }
 
-        boolean standsAhead(Parting of) {
+        boolean standsAhead(Parting with) {
             for (int thing = 0; thing < size; thing++) {
-                if (heapOf[thing] != of.heapOf[thing]) {
-                    return heapOf[thing] < of.heapOf[thing];
+                if (heapOf[thing] != with.heapOf[thing]) {
+                    return heapOf[thing] < with.heapOf[thing];
                 }
             }
             return false;

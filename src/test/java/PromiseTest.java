@@ -617,6 +617,18 @@ public final class PromiseTest {
         due("line(2, 2)", y.line(2, 2), 1000);
         named(y, "line(2, 2)", "000000000001");
         due("line(1, 1)", y.line(1, 1), 2000);
+        lineOfEqualOnes();
+    }
+
+    /** Things 5 and 6 stand at one point, so only their numbers tell which of them may go with 4. */
+    private static void lineOfEqualOnes() {
+        HeapBench x = with(7);
+        int[] firsts = {500, 600, 900, 1000, 10, 0, 0};
+        for (int i = 0; i < 7; i++) {
+            place(x, i, firsts[i]);
+        }
+        due("line(2, 4)", x.line(2, 4), 100);
+        named(x, "line(2, 4): the less number ahead", "0011232");
     }
 
     private static void better(int p) {
