@@ -338,10 +338,7 @@ public final class BoundaryTest {
         for (Row row : run) {
             rows++;
             if (row.expectation == Expectation.NAME) {
-                String name = bench.name();
-                if (!name.equals(row.due)) {
-                    notDue(section.toString(), "the name is " + name + ", due is " + row.due);
-                }
+                named(section, bench, row.due);
                 continue;
             }
             long got = 0;
@@ -361,6 +358,36 @@ public final class BoundaryTest {
                 notDue(section.toString(), row.text + ": fault() " + fault + ", due is " + dueFault);
             }
         }
+    }
+
+    private static void named(Section section, Bench bench, String due) {
+        String name = bench.name();
+        long heaps = bench.ask("count", 1);
+        long rank = bench.ask("rank");
+        long dueHeaps = due.chars().distinct().count();
+        if (!name.equals(due) || heaps != dueHeaps || rank != rankOf(due)) {
+            notDue(section.toString(), "the name is " + name + " with " + heaps + " heaps and rank " + rank
+                    + ", due is " + due + " with " + dueHeaps + " and " + rankOf(due));
+        }
+    }
+
+    /** How many names stand ahead: those that begin alike up to a thing, and have a less heap there. */
+    private static long rankOf(String name) {
+        long ahead = 0;
+        int heaps = 0;
+        for (int i = 0; i < name.length(); i++) {
+            int heap = Character.digit(name.charAt(i), 36);
+            for (int less = 0; less < heap; less++) {
+                ahead += endings(Math.max(heaps, less + 1), name.length() - i - 1);
+            }
+            heaps = Math.max(heaps, heap + 1);
+        }
+        return ahead;
+    }
+
+    /** How many names there are for so many more things, where there are so many heaps. */
+    private static long endings(int heaps, int things) {
+        return things == 0 ? 1 : heaps * endings(heaps, things - 1) + endings(heaps + 1, things - 1);
     }
 
     // ---- what each call may change

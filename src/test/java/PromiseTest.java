@@ -980,15 +980,16 @@ public final class PromiseTest {
         refused(x, "of(2 ^ 32)", x.of(1L << 32), 1);
         named(x, "refusals", "0123");
         for (int n = 1; n <= 12; n++) {
-            x.things(n);
-            long all = x.many(n, 0);
+            // an object of its own for each n: none is used for more than 512 calls
+            HeapBench y = with(n);
+            long all = y.many(n, 0);
             for (long r = 0; r < all; r += 1 + all / 50) {
-                due("of(r)", x.of(r), true);
-                due("rank() behind of(r)", x.rank(), r);
+                due("of(r)", y.of(r), true);
+                due("rank() behind of(r)", y.rank(), r);
             }
-            due("of(last)", x.of(all - 1), true);
-            due("count(1)", x.count(1), n);
-            refused(x, "of(all)", x.of(all), 1);
+            due("of(last)", y.of(all - 1), true);
+            due("count(1)", y.count(1), n);
+            refused(y, "of(all)", y.of(all), 1);
         }
     }
 
