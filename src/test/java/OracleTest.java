@@ -1,3 +1,4 @@
+import java.lang.reflect.Method;
 import java.math.BigInteger;
 import java.util.ArrayDeque;
 import java.util.ArrayList;
@@ -24,6 +25,10 @@ public final class OracleTest {
             asked += r.calls;
         }
         System.out.println(asked + " calls in " + RUNS + " runs, " + wrong + " runs not as due");
+        Sweep sweep = new Sweep();
+        sweep.go();
+        wrong += sweep.wrong;
+        System.out.println(sweep.asked + " calls at edges, " + sweep.wrong + " not as due");
         if (wrong != 0) {
             System.exit(1);
         }
@@ -308,6 +313,213 @@ public final class OracleTest {
                 fine = same("check(0, 0)", real.check(0, 0), slow.check(0, 0));
             }
             return fine;
+        }
+    }
+
+    /**
+     * Each call with each of its numbers at an edge and beside it, from a bare bench and from a full one.
+     * What it leaves is compared too: behind each call that may change something and is not refused,
+     * behind some forty others together.
+     */
+    private static final class Sweep {
+        static final int[] SIZES = {1, 2, 3, 7, 8, 9, 10, 12};
+        static final int MOST_IN_ONE = 40;
+        static final List<String> ASKING = List.of("count", "heap", "pair", "cost", "middle", "thirds", "rounds",
+                "joined", "height", "many", "rank", "differ");
+        static final int[] FEW = {Integer.MIN_VALUE, -1, 0, 1, 2, 3, 4, 9, 11, 12, 13, 32, 999, 1000, 1001, 9999, 10000,
+                10001, Integer.MAX_VALUE};
+        static final long[] LONGS = {Long.MIN_VALUE, Long.MIN_VALUE + 1, -1L << 32, Integer.MIN_VALUE - 1L,
+                Integer.MIN_VALUE, -32769, -32768, -1001, -1000, -129, -128, -2, -1, 0, 1, 2, 3, 127, 128, 255, 256, 1000,
+                1001, 32767, 32768, 65535, 65536, Integer.MAX_VALUE, Integer.MAX_VALUE + 1L, 1L << 32, (1L << 32) + 1,
+                Long.MAX_VALUE};
+        int n;
+        boolean full;
+        HeapBench real;
+        Slow slow;
+        int sweptInOne;
+        int used;
+        String latest;
+        long asked = 0;
+        int wrong = 0;
+
+        void go() {
+            for (int size : SIZES) {
+                n = size;
+                full = false;
+                sweepAll();
+                full = true;
+                sweepAll();
+            }
+        }
+
+        void sweepAll() {
+            for (Method method : HeapBench.class.getDeclaredMethods()) {
+                boolean isCall = java.lang.reflect.Modifier.isPublic(method.getModifiers()) && !method.getName().equals("fault");
+                if (isCall && wrong < 10) {
+                    begin();
+                    sweep(method, new ArrayList<>());
+                    compareStates();
+                }
+            }
+        }
+
+        void begin() {
+            real = new HeapBench();
+            slow = new Slow();
+            sweptInOne = 0;
+            used = 0;
+            latest = "the beginning";
+            same("things", real.things(n), slow.things(n));
+            if (full) {
+                fill();
+            }
+        }
+
+        void fill() {
+            for (int a = 0; a < n; a++) {
+                same("sheet", real.sheet(1, 4), slow.sheet(1, 4));
+                for (int i = 0; i < 4; i++) {
+                    int e = (a * 7 + i * 5) % 11 * 3 - 15;
+                    same("entry", real.entry(i, e), slow.entry(i, e));
+                }
+                same("lay", real.lay(a), slow.lay(a));
+                for (int b = 0; b < a; b++) {
+                    int weight = (a * b + a) % 5;
+                    boolean like = (a + b) % 3 > 0;
+                    same("quarrel", real.quarrel(a, b, weight, like), slow.quarrel(a, b, weight, like));
+                }
+            }
+            same("measure", real.measure(0), slow.measure(0));
+            for (int k = 0; k < 4; k++) {
+                same("of", real.of(k * (n - 1L)), slow.of(k * (n - 1L)));
+                same("keep", real.keep(k), slow.keep(k));
+            }
+            same("tree", real.tree(1), slow.tree(1));
+            for (int a = 0; a < n; a++) {
+                same("tell", real.tell(11 - a / 2), slow.tell(11 - a / 2));
+            }
+            same("sheet", real.sheet(3, 8), slow.sheet(3, 8));
+            same("entry", real.entry(n % 4, 1000L), slow.entry(n % 4, 1000L));
+        }
+
+        /** All ways to go on with the arguments so far, then the call itself. */
+        void sweep(Method method, List<Object> sofar) {
+            Class<?>[] kinds = method.getParameterTypes();
+            if (sofar.size() == kinds.length) {
+                ask(method, sofar.toArray());
+                return;
+            }
+            for (Object value : valuesFor(kinds[sofar.size()], kinds.length)) {
+                List<Object> longer = new ArrayList<>(sofar);
+                longer.add(value);
+                sweep(method, longer);
+            }
+        }
+
+        List<Object> valuesFor(Class<?> kind, int of) {
+            TreeSet<Long> values = new TreeSet<>();
+            for (int v : FEW) {
+                values.add((long) v);
+            }
+            for (int v = -2; v <= 2; v++) {
+                values.add((long) n + v);
+            }
+            for (long v : of > 2 ? new long[0] : LONGS) {
+                values.add(v);
+            }
+            for (int v = 0; v < 16 && of <= 2; v++) {
+                values.add((long) v);
+                values.add((long) Slow.names(n).length + v - 2);
+            }
+            List<Object> all = new ArrayList<>();
+            for (long v : values) {
+                if (kind == long.class) {
+                    all.add(v);
+                } else if (kind == int.class && v == (int) v) {
+                    all.add((int) v);
+                }
+            }
+            return kind == boolean.class ? List.of(false, true) : all;
+        }
+
+        /** What the slow bench would take too long for; all of it stands in boundaries.txt by hand. */
+        boolean isDear(String name, Object[] given) {
+            boolean bigLine = name.equals("line") && n > 9 && (int) given[0] >= 0 && (int) given[0] <= 2;
+            boolean bigMany = name.equals("many") && (int) given[0] > 9 && (int) given[0] <= 12;
+            return bigLine && (int) given[1] > 0 && (int) given[1] <= n || bigMany && (int) given[1] > 0
+                    || name.equals("two") && n > 9 || name.equals("best") && n == 9 && !full;
+        }
+
+        void ask(Method method, Object[] given) {
+            String name = method.getName();
+            if (isDear(name, given) || wrong >= 10) {
+                return;
+            }
+            latest = name + Arrays.toString(given) + (full ? " full" : " bare") + " with " + n + " things";
+            same(latest, answer(method, real, given), answer(slowMethod(method), slow, given));
+            // asked of these alone: of all of them it would be more than 512 calls
+            same("fault()", real.fault(), slow.fault);
+            boolean moved = slow.fault == 0 && !ASKING.contains(name);
+            if (moved || ++sweptInOne >= MOST_IN_ONE) {
+                compareStates();
+                begin();
+            }
+        }
+
+        Method slowMethod(Method method) {
+            try {
+                Method found = Slow.class.getDeclaredMethod(method.getName(), method.getParameterTypes());
+                found.setAccessible(true);
+                return found;
+            } catch (ReflectiveOperationException e) {
+                throw new IllegalStateException(e);
+            }
+        }
+
+        long answer(Method method, Object bench, Object[] given) {
+            try {
+                Object got = method.invoke(bench, given);
+                return got instanceof Boolean ? (boolean) got ? 1 : 0 : ((Number) got).longValue();
+            } catch (ReflectiveOperationException e) {
+                throw new IllegalStateException(latest, e);
+            }
+        }
+
+        void same(String call, boolean got, boolean due) {
+            same(call, got ? 1 : 0, due ? 1 : 0);
+        }
+
+        void same(String call, long got, long due) {
+            asked++;
+            used++;
+            if (used > 512) {
+                throw new IllegalStateException("what later calls answer is free");
+            }
+            if (got != due) {
+                wrong++;
+                System.out.println("  " + call + " answered " + got + ", due is " + due + "; behind " + latest);
+            }
+        }
+
+        void compareStates() {
+            for (int what = 0; what < 6; what++) {
+                same("count " + what, real.count(what), slow.count(what));
+            }
+            for (int a = 0; a < slow.n; a++) {
+                same("heap", real.heap(a), slow.heap(a));
+                for (int b = 0; b < a; b++) {
+                    for (int what = 0; what < 3; what++) {
+                        same("pair " + what, real.pair(b, a, what), slow.pair(b, a, what));
+                    }
+                }
+            }
+            for (int i = 0; slow.joins != null && i < slow.joins.size(); i++) {
+                same("joined", real.joined(i, 1), slow.joined(i, 1));
+                same("joined", real.joined(i, 2), slow.joined(i, 2));
+            }
+            for (int k = 0; k < 4; k++) {
+                same("differ", real.differ(k), slow.differ(k));
+            }
         }
     }
 
