@@ -35,7 +35,7 @@ public final class HeapBench {
     private final Tree joins = new Tree();
     private final Parting[] kept = new Parting[KEEPS];
     private final Parting told = new Parting();
-    private final Search search = new Search(now);
+    private final Search search = new Search();
     private final Line spans = new Line();
     private final Moves moves = new Moves();
     private final Likes likings = new Likes();
@@ -224,7 +224,7 @@ public final class HeapBench {
         change();
         int fewest = k == 0 ? 1 : k;
         int most = k == 0 ? now.size : k;
-        return search.run(goal, fewest, most);
+        return search.run(now, goal, fewest, most);
     }
 
     public long line(int goal, int k) {
@@ -245,7 +245,7 @@ public final class HeapBench {
 
     public int two() {
         change();
-        return (int) search.run(WIDE, 1, 2);
+        return (int) search.run(now, WIDE, 1, 2);
     }
 
     public int centres(int k) {
@@ -872,40 +872,35 @@ public final class HeapBench {
         private final long[] heapCosts = new long[1 << MOST_FOR_BEST];
         private final int[] members = new int[MOST_THINGS];
         private final int[] heapOf = new int[MOST_THINGS];
-        private final Scene scene;
         private long leastCost = 0;
         private int goal = 0;
         private int fewest = 0;
         private int most = 0;
 
-        Search(Scene scene) {
-            this.scene = scene;
-        }
-
         /** Makes the scene's parting the best one; goals but WIDE only for things that best() takes. */
-        long run(int byGoal, int atLeast, int atMost) {
+        long run(Scene scene, int byGoal, int atLeast, int atMost) {
             goal = byGoal;
             fewest = atLeast;
             most = atMost;
             leastCost = Long.MAX_VALUE;
             if (goal != WIDE) {
-                costAllHeaps();
+                costAllHeaps(scene);
             }
             Arrays.fill(members, 0);
-            descend(0, 0, Costs.ground(scene, goal));
+            descend(scene, 0, 0, Costs.ground(scene, goal));
             return leastCost;
         }
 
-        private void costAllHeaps() {
+        private void costAllHeaps(Scene scene) {
             int all = Math.min(1 << scene.size, heapCosts.length);
             for (int heap = 0; heap < all; heap++) {
                 heapCosts[heap] = Costs.ofHeap(scene, goal, heap);
             }
         }
 
-        private void descend(int thing, int heaps, long cost) {
+        private void descend(Scene scene, int thing, int heaps, long cost) {
             if (thing >= scene.size || thing >= MOST_THINGS) {
-                take(heaps, cost);
+                take(scene, heaps, cost);
                 return;
             }
             if (heaps + scene.size - thing < fewest) {
@@ -914,19 +909,19 @@ public final class HeapBench {
             int last = Math.min(heaps, most - 1);
             for (int heap = 0; heap <= last && heap < MOST_THINGS; heap++) {
                 int before = members[heap];
-                long grown = grown(cost, before, thing);
+                long grown = grown(scene, cost, before, thing);
                 // WIDE can't fall by more things; the other goals can
                 if (goal == WIDE && grown >= leastCost) {
                     continue;
                 }
                 members[heap] = before | 1 << thing;
                 heapOf[thing] = heap;
-                descend(thing + 1, heap == heaps ? heaps + 1 : heaps, grown);
+                descend(scene, thing + 1, heap == heaps ? heaps + 1 : heaps, grown);
                 members[heap] = before;
             }
         }
 
-        private long grown(long cost, int before, int thing) {
+        private long grown(Scene scene, long cost, int before, int thing) {
             if (goal == WIDE) {
                 return Math.max(cost, Costs.reach(scene, thing, before, thing));
             }
@@ -937,7 +932,7 @@ public final class HeapBench {
             return cost - heapCosts[before] + heapCosts[after];
         }
 
-        private void take(int heaps, long cost) {
+        private void take(Scene scene, int heaps, long cost) {
             if (heaps < fewest || cost >= leastCost) {
                 return;
             }

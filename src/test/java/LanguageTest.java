@@ -1,3 +1,13 @@
+import com.sun.source.tree.ClassTree;
+import com.sun.source.tree.CompilationUnitTree;
+import com.sun.source.tree.MethodInvocationTree;
+import com.sun.source.tree.MethodTree;
+import com.sun.source.tree.NewClassTree;
+import com.sun.source.tree.VariableTree;
+import com.sun.source.util.JavacTask;
+import com.sun.source.util.TreePath;
+import com.sun.source.util.TreePathScanner;
+import com.sun.source.util.Trees;
 import java.lang.management.ManagementFactory;
 import java.lang.reflect.Constructor;
 import java.lang.reflect.Field;
@@ -7,11 +17,18 @@ import java.nio.file.Files;
 import java.nio.file.Path;
 import java.util.ArrayList;
 import java.util.Arrays;
+import java.util.HashMap;
+import java.util.HashSet;
 import java.util.List;
+import java.util.Map;
 import java.util.Set;
 import java.util.TreeSet;
 import java.util.regex.Matcher;
 import java.util.regex.Pattern;
+import javax.lang.model.element.Element;
+import javax.tools.JavaCompiler;
+import javax.tools.StandardJavaFileManager;
+import javax.tools.ToolProvider;
 
 // The rules of LANGUAGE.md that can be seen in the source or by reflection, and the room that calls take.
 public final class LanguageTest {
@@ -40,6 +57,7 @@ public final class LanguageTest {
         insideClasses();
         words(withoutTexts(source));
         methodLengths(source);
+        new CallsOfTheClass().go();
         room();
         System.out.println(wrong == 0 ? "all rules are kept" : wrong + " rules are not kept");
         if (wrong != 0) {
@@ -144,6 +162,79 @@ public final class LanguageTest {
                 }
                 rule(11, end - i < 60, "a method of " + (end - i + 1) + " lines: " + lines[i].trim());
             }
+        }
+    }
+
+    /** Which method of the class calls which, as the compiler sees it. */
+    private static final class CallsOfTheClass extends TreePathScanner<Void, Trees> {
+        private static final int MOST_DEEP = 8;
+        final Map<String, Set<String>> callees = new HashMap<>();
+        final Set<String> recursive = new TreeSet<>();
+        final Map<String, Integer> depths = new HashMap<>();
+
+        void go() throws Exception {
+            JavaCompiler javac = ToolProvider.getSystemJavaCompiler();
+            try (StandardJavaFileManager files = javac.getStandardFileManager(null, null, null)) {
+                JavacTask task = (JavacTask) javac.getTask(null, files, null, List.of("-proc:none"), null,
+                        files.getJavaFileObjects("src/main/java/HeapBench.java"));
+                CompilationUnitTree unit = task.parse().iterator().next();
+                task.analyze();
+                scan(unit, Trees.instance(task));
+            }
+            for (String method : callees.keySet()) {
+                int deep = depthOf(method, new HashSet<>());
+                rule(11, deep <= MOST_DEEP, method + " goes " + deep + " calls deep");
+            }
+            rule(8, recursive.equals(Set.of("HeapBench.Search.descend")), "recursion of " + recursive);
+            rule(11, callees.size() > 100 && depthOf("HeapBench.better", new HashSet<>()) > 4, "no calls seen");
+        }
+
+        @Override
+        public Void visitMethodInvocation(MethodInvocationTree call, Trees trees) {
+            note(trees);
+            return super.visitMethodInvocation(call, trees);
+        }
+
+        @Override
+        public Void visitNewClass(NewClassTree made, Trees trees) {
+            note(trees);
+            return super.visitNewClass(made, trees);
+        }
+
+        private void note(Trees trees) {
+            Element callee = trees.getElement(getCurrentPath());
+            String name = callee.getEnclosingElement() + "." + callee.getSimpleName();
+            if (name.startsWith("HeapBench")) {
+                callees.computeIfAbsent(name, n -> new TreeSet<>());
+                callees.computeIfAbsent(caller(trees), n -> new TreeSet<>()).add(name);
+            }
+        }
+
+        /** A field's first value is made within the constructor. */
+        private String caller(Trees trees) {
+            TreePath at = getCurrentPath();
+            while (!(at.getLeaf() instanceof MethodTree) && !(at.getParentPath().getLeaf() instanceof ClassTree)) {
+                at = at.getParentPath();
+            }
+            Element within = trees.getElement(at);
+            String name = at.getLeaf() instanceof VariableTree ? "<init>" : within.getSimpleName().toString();
+            return within.getEnclosingElement() + "." + name;
+        }
+
+        private int depthOf(String method, Set<String> open) {
+            if (!open.add(method)) {
+                recursive.add(method);
+                return 0;
+            }
+            if (!depths.containsKey(method)) {
+                int deepest = 0;
+                for (String callee : callees.getOrDefault(method, Set.of())) {
+                    deepest = Math.max(deepest, depthOf(callee, open));
+                }
+                depths.put(method, deepest + 1);
+            }
+            open.remove(method);
+            return depths.get(method);
         }
     }
 

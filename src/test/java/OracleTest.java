@@ -11,8 +11,8 @@ import java.util.TreeSet;
 // Long runs of mixed calls, right and wrong ones, each against a slow bench that does the document's
 // words in the plainest way: all partings are listed, all orders tried, every cost told from its words.
 public final class OracleTest {
-    private static final int RUNS = 900;
-    private static final int CALLS = 450;
+    private static final int RUNS = 3000;
+    private static final int MOST_CALLS = 512;
     private static final int CALLABLE = 39;
     private static final int[] ODD = {Integer.MIN_VALUE, -1, 12, 13, Integer.MAX_VALUE, 1 << 30, -32};
 
@@ -48,14 +48,13 @@ public final class OracleTest {
         Run(int number) {
             this.number = number;
             random = new Random(number * 7919L);
-            // all partings of twelve things are too many for every run
-            mostThings = number % 100 == 0 ? 12 : number % 10 == 0 ? 9 : number % 3 == 0 ? 7 : 6;
+            mostThings = number % 4 == 0 ? 12 : number % 10 == 1 ? 9 : number % 3 == 0 ? 7 : 6;
             range = new int[] {2, 4, 12, 1000}[random.nextInt(4)];
         }
 
         boolean go() {
             boolean fine = begin();
-            while (fine && calls < CALLS) {
+            while (fine && calls < MOST_CALLS) {
                 fine = call(random.nextInt(CALLABLE)) && (random.nextInt(40) > 0 || sameState());
             }
             for (String line : fine ? new ArrayList<String>() : told) {
@@ -115,9 +114,12 @@ public final class OracleTest {
         }
 
         boolean same(String call, long got, long due) {
+            if (calls >= MOST_CALLS) {
+                return true;
+            }
             calls++;
             told.add(call + " answered " + got);
-            if (got == due && slow.fault == 0 && random.nextInt(4) > 0) {
+            if (got == due && (calls == MOST_CALLS || slow.fault == 0 && random.nextInt(4) > 0)) {
                 return true;
             }
             calls++;
@@ -442,17 +444,11 @@ public final class OracleTest {
             return kind == boolean.class ? List.of(false, true) : all;
         }
 
-        /** What the slow bench would take too long for; all of it stands in boundaries.txt by hand. */
-        boolean isDear(String name, Object[] given) {
-            boolean bigLine = name.equals("line") && n > 9 && (int) given[0] >= 0 && (int) given[0] <= 2;
-            boolean bigMany = name.equals("many") && (int) given[0] > 9 && (int) given[0] <= 12;
-            return bigLine && (int) given[1] > 0 && (int) given[1] <= n || bigMany && (int) given[1] > 0
-                    || name.equals("two") && n > 9 || name.equals("best") && n == 9 && !full;
-        }
-
         void ask(Method method, Object[] given) {
             String name = method.getName();
-            if (isDear(name, given) || wrong >= 10) {
+            // the slow bench would take too long for it; it stands in boundaries.txt by hand
+            boolean isDear = name.equals("best") && n == 9 && !full;
+            if (isDear || wrong >= 10) {
                 return;
             }
             latest = name + Arrays.toString(given) + (full ? " full" : " bare") + " with " + n + " things";
@@ -559,6 +555,7 @@ public final class OracleTest {
         final List<Integer> list = new ArrayList<>();
 
         private static final long[][] NAMES = new long[13][];
+        private static final long[][] COUNTED = new long[13][];
 
         /** All names of n things, in order; a thing's heap in four bits. */
         static long[] names(int n) {
@@ -890,12 +887,31 @@ public final class OracleTest {
                     ways[a][b] = Math.abs(s.places[a][0] - s.places[b][0]);
                 }
             }
-            long least = -1;
-            for (long spelled : names(n)) {
-                int[] name = unspell(spelled, n);
-                if (heapsOf(name) != k || !areSpans(name, order)) {
-                    continue;
+            List<int[]> all = new ArrayList<>();
+            addSpans(order, new int[n], 1, k, all);
+            return takeFirstBest(goal, all, ways);
+        }
+
+        /** All partings in spans of an order: each thing is with the one ahead of it, or begins a span. */
+        static void addSpans(List<Integer> order, int[] labels, int at, int k, List<int[]> all) {
+            if (at == order.size()) {
+                int[] name = byLeast(labels);
+                if (heapsOf(name) == k) {
+                    all.add(name);
                 }
+                return;
+            }
+            int ahead = labels[order.get(at - 1)];
+            for (int begins = 0; begins < 2; begins++) {
+                labels[order.get(at)] = ahead + begins;
+                addSpans(order, labels, at + 1, k, all);
+            }
+        }
+
+        long takeFirstBest(int goal, List<int[]> all, int[][] ways) {
+            all.sort(Arrays::compare);
+            long least = -1;
+            for (int[] name : all) {
                 long cost = costOf(goal, name, ways);
                 if (least < 0 || cost < least) {
                     least = cost;
@@ -903,14 +919,6 @@ public final class OracleTest {
                 }
             }
             return least;
-        }
-
-        static boolean areSpans(int[] name, List<Integer> order) {
-            int turns = 0;
-            for (int i = 1; i < order.size(); i++) {
-                turns += name[order.get(i)] != name[order.get(i - 1)] ? 1 : 0;
-            }
-            return turns == heapsOf(name) - 1;
         }
 
         int better(int goal) {
@@ -950,16 +958,15 @@ public final class OracleTest {
 
         int two() {
             change();
-            long least = -1;
-            for (long spelled : names(n)) {
-                int[] name = unspell(spelled, n);
-                long cost = heapsOf(name) > 2 ? -1 : costOf(2, name, s.ways);
-                if (cost >= 0 && (least < 0 || cost < least)) {
-                    least = cost;
-                    s.name = name;
+            List<int[]> all = new ArrayList<>();
+            for (int others = 0; others < 1 << n; others++) {
+                int[] labels = new int[n];
+                for (int a = 0; a < n; a++) {
+                    labels[a] = others >> a & 1;
                 }
+                all.add(byLeast(labels));
             }
-            return (int) least;
+            return (int) takeFirstBest(2, all, s.ways);
         }
 
         int nearest(int a, List<Integer> centres) {
@@ -1165,14 +1172,18 @@ public final class OracleTest {
                 return no(1);
             }
             fault = 0;
-            if (k == 0) {
-                return names(m).length;
+            return k == 0 ? names(m).length : counted(m)[k];
+        }
+
+        /** How many names of so many things have 0, 1, .. heaps; each counted once for all runs. */
+        static long[] counted(int m) {
+            if (COUNTED[m] == null) {
+                COUNTED[m] = new long[13];
+                for (long spelled : names(m)) {
+                    COUNTED[m][m == 0 ? 0 : heapsOf(unspell(spelled, m))]++;
+                }
             }
-            int found = 0;
-            for (long spelled : names(m)) {
-                found += m > 0 && heapsOf(unspell(spelled, m)) == k ? 1 : 0;
-            }
-            return found;
+            return COUNTED[m];
         }
 
         long rank() {
