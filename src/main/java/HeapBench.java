@@ -1229,29 +1229,30 @@ public final class HeapBench {
             size = scene.size;
             System.arraycopy(scene.ways, 0, between, 0, between.length);
             heapsLeft = (1 << size) - 1;
-            for (length = 0; length < size - 1; length++) {
-                findLowest();
-                joinLowest(kind);
+            length = size - 1;
+            for (int i = 0; i < size - 1; i++) {
+                findLowest(i);
+                joinLowest(i, kind);
             }
         }
 
-        private void findLowest() {
-            heights[length] = Integer.MAX_VALUE;
+        private void findLowest(int i) {
+            heights[i] = Integer.MAX_VALUE;
             for (int a = 0; a < size; a++) {
                 for (int b = a + 1; b < size && Costs.has(heapsLeft, a); b++) {
                     int height = between[a * MOST_THINGS + b];
-                    if (Costs.has(heapsLeft, b) && height < heights[length]) {
-                        one[length] = a;
-                        other[length] = b;
-                        heights[length] = height;
+                    if (Costs.has(heapsLeft, b) && height < heights[i]) {
+                        one[i] = a;
+                        other[i] = b;
+                        heights[i] = height;
                     }
                 }
             }
         }
 
-        private void joinLowest(int kind) {
-            int a = one[length];
-            int b = other[length];
+        private void joinLowest(int i, int kind) {
+            int a = one[i];
+            int b = other[i];
             heapsLeft &= ~(1 << b);
             for (int c = 0; c < size; c++) {
                 int fromA = between[a * MOST_THINGS + c];
